@@ -14,7 +14,7 @@ public final class ParserForge {
     private static final int RULE_CELLS = RULE_COUNT * TERM_LIMIT;
     private static final int ANY_LETTER = 4, THEN = 5, OR = 6, ANY_TIMES = 7, ONCE_OR_NOT = 9;
 
-    // A well formed rule of 8 terms has at most 4 letter terms, as 4 need 3 terms more to become one expression.
+    // A well formed rule has at most 4 letter terms: 5 would need 4 more terms to become one expression.
     private static final int PLACE_LIMIT = 16;
     // Stands for the place before all letters, so that the beginning is a set like the others.
     private static final int BEGINNING = 16;
@@ -67,7 +67,7 @@ public final class ParserForge {
     private final int[] placeLetters = new int[PLACE_LIMIT];
     private final int[] followers = new int[PLACE_SLOTS];
     private final int[] ruleEnds = new int[RULE_COUNT];
-    private final int[] sets = new int[SET_SLOTS];
+    private final long[] sets = new long[SET_SLOTS];
     private final int[] steps = new int[STEP_CELLS];
     private final int[] classes = new int[SET_SLOTS];
     private final int[] finerClasses = new int[SET_SLOTS];
@@ -379,12 +379,12 @@ public final class ParserForge {
 
     /** Answers how many slots of sets are used, with the beginning, or NONE if they are too few. */
     private int findSets() {
-        sets[0] = 1 << BEGINNING;
+        sets[0] = 1L << BEGINNING;
         int count = 1;
         for (int s = 0; s < SET_SLOTS && s < count; s++) {
             for (int letter = 0; letter < LETTERS; letter++) {
-                int set = setBehind(sets[s], letter);
-                int slot = set == 0 ? NONE : slotOfSet(set, count);
+                long set = setBehind(sets[s], letter);
+                int slot = set == 0 ? NONE : slotOf(set, sets, count);
                 if (slot == SET_SLOTS) {
                     return NONE;
                 }
@@ -398,7 +398,7 @@ public final class ParserForge {
         return count;
     }
 
-    private int setBehind(int set, int letter) {
+    private long setBehind(long set, int letter) {
         int reached = 0;
         for (int place = 0; place < PLACE_SLOTS; place++) {
             if ((set >> place & 1) != 0) {
@@ -414,10 +414,11 @@ public final class ParserForge {
         return reached & readable;
     }
 
-    private int slotOfSet(int set, int count) {
-        for (int s = 0; s < SET_SLOTS && s < count; s++) {
-            if (sets[s] == set) {
-                return s;
+    /** Where the row stands among the first count rows, count if it is new. */
+    private static int slotOf(long row, long[] rows, int count) {
+        for (int slot = 0; slot < rows.length && slot < count; slot++) {
+            if (rows[slot] == row) {
+                return slot;
             }
         }
         return count;
@@ -435,7 +436,7 @@ public final class ParserForge {
         }
     }
 
-    private int leastRuleEndingIn(int set) {
+    private int leastRuleEndingIn(long set) {
         for (int r = 0; r < RULE_COUNT; r++) {
             if ((ruleEnds[r] & set) != 0) {
                 return r;
@@ -516,12 +517,12 @@ public final class ParserForge {
 
     /** Answers how many states there are, or NONE if there are too many. */
     private int findStates() {
-        states[0] = closureOf(1L << START * ITEM_STRIDE);
+        states[0] = closureOf(1L << (START * ITEM_STRIDE));
         int count = 1;
         for (int s = 0; s < STATE_LIMIT && s < count; s++) {
             for (int symbol = 0; symbol < SYMBOL_SLOTS; symbol++) {
                 long items = itemsBehind(states[s], symbol);
-                int slot = items == 0 ? NONE : slotOfState(items, count);
+                int slot = items == 0 ? NONE : slotOf(items, states, count);
                 if (slot == STATE_LIMIT) {
                     return NONE;
                 }
@@ -539,7 +540,7 @@ public final class ParserForge {
         long moved = 0;
         for (int item = 0; item < ITEM_LIMIT; item++) {
             if ((items >> item & 1) != 0 && symbolBehind(item) == symbol) {
-                moved |= 1L << item + 1;
+                moved |= 1L << (item + 1);
             }
         }
         return closureOf(moved);
@@ -564,19 +565,10 @@ public final class ParserForge {
         long items = 0;
         for (int p = 0; p < PRODUCTION_LIMIT && p < productionCount; p++) {
             if (grammar[p * PRODUCTION_CELLS + LEFT] == symbol) {
-                items |= 1L << p * ITEM_STRIDE;
+                items |= 1L << (p * ITEM_STRIDE);
             }
         }
         return items;
-    }
-
-    private int slotOfState(long items, int count) {
-        for (int s = 0; s < STATE_LIMIT && s < count; s++) {
-            if (states[s] == items) {
-                return s;
-            }
-        }
-        return count;
     }
 
     // ---- lookaheads
@@ -639,7 +631,7 @@ public final class ParserForge {
         boolean grown = addLookaheads(target, item + 1, own);
         if (isNonterminal(symbol)) {
             int behind = beginOfRest(item + 1);
-            int given = (behind & NULLABLE) != 0 ? behind & ~NULLABLE | own : behind;
+            int given = (behind & NULLABLE) != 0 ? (behind & ~NULLABLE) | own : behind;
             for (int p = 0; p < PRODUCTION_LIMIT && p < productionCount; p++) {
                 if (grammar[p * PRODUCTION_CELLS + LEFT] == symbol && addLookaheads(s, p * ITEM_STRIDE, given)) {
                     grown = true;

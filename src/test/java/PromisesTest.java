@@ -176,6 +176,9 @@ public final class PromisesTest {
         due("the skip was built", x.tokens(), 2);
         x.build();
         due("and is not any more", x.tokens(), 5);
+        x.skip(0, true);
+        x.build();
+        due("the last one is left out", x.tokens(), 4);
     }
 
     private static void produce() {
@@ -563,6 +566,15 @@ public final class PromisesTest {
         z.build();
         due("four", z.tokens(), 4);
         due("rule of 2", z.token(2, 0), 1);
+        terms(z, 1, 0, 7, 1, 6, 2, 5);
+        terms(z, 3);
+        z.build();
+        text(z, 2, 0, 0, 2, 1, 2, 0, 1, 2);
+        due("none, some or one, then 2", z.tokens(), 3);
+        terms(z, 1, 2, 7);
+        terms(z, 3, 4);
+        z.build();
+        text(z, 0, 1, 2, 3);
         due("rule of 3", z.token(3, 0), 3);
     }
 
