@@ -1,10 +1,5 @@
 /** For each promise of the document: ordinary inputs, the edges that it names, and wrong inputs. */
-public final class PromisesTest {
-    private static final int LOWEST = Integer.MIN_VALUE, HIGHEST = Integer.MAX_VALUE;
-
-    private static int wrong = 0;
-    private static String promise = "";
-
+public final class PromisesTest extends Bench {
     public static void main(String[] args) {
         newObject();
         rule();
@@ -30,59 +25,11 @@ public final class PromisesTest {
         parseStepLimit();
         value();
         place();
-        System.exit(wrong == 0 ? 0 : 1);
-    }
-
-    private static void due(String what, int got, int want) {
-        if (got != want) {
-            wrong++;
-            System.out.println(promise + ": " + what + " answered " + got + ", due is " + want);
-        }
-    }
-
-    private static void due(String what, boolean got, boolean want) {
-        due(what, got ? 1 : 0, want ? 1 : 0);
-    }
-
-    private static void terms(ParserForge x, int r, int... terms) {
-        x.clear(r);
-        for (int term : terms) {
-            x.rule(r, term);
-        }
-    }
-
-    /** Rule r matches just letter r. */
-    private static ParserForge letters() {
-        ParserForge x = new ParserForge();
-        for (int r = 0; r < 4; r++) {
-            terms(x, r, r);
-        }
-        return x;
-    }
-
-    private static void text(ParserForge x, int... letters) {
-        x.wipe();
-        for (int letter : letters) {
-            x.put(letter);
-        }
-    }
-
-    private static void parsed(ParserForge x, int answer, int value, int place, int... letters) {
-        text(x, letters);
-        due("parse()", x.parse(), answer);
-        due("value()", x.value(), value);
-        due("place()", x.place(), place);
-    }
-
-    private static void counts(ParserForge x, int sets, int classes, int states, int conflicts) {
-        due("built(0)", x.built(0), sets);
-        due("built(1)", x.built(1), classes);
-        due("built(2)", x.built(2), states);
-        due("built(3)", x.built(3), conflicts);
+        end();
     }
 
     private static void newObject() {
-        promise = "promise 1";
+        about("promise 1");
         ParserForge x = new ParserForge();
         counts(x, -1, -1, -1, -1);
         due("tokens()", x.tokens(), -1);
@@ -120,7 +67,7 @@ public final class PromisesTest {
     }
 
     private static void rule() {
-        promise = "promise 2";
+        about("promise 2");
         ParserForge x = new ParserForge();
         for (int term = 0; term < 8; term++) {
             due("rule(3, " + term + ")", x.rule(3, term), true);
@@ -139,7 +86,7 @@ public final class PromisesTest {
     }
 
     private static void clear() {
-        promise = "promise 3";
+        about("promise 3");
         ParserForge x = letters();
         due("clear(-1)", x.clear(-1), -1);
         due("clear(4)", x.clear(4), -1);
@@ -158,7 +105,7 @@ public final class PromisesTest {
     }
 
     private static void skip() {
-        promise = "promise 4";
+        about("promise 4");
         ParserForge x = letters();
         due("skip(2, true)", x.skip(2, true), true);
         due("skip(3, true)", x.skip(3, true), true);
@@ -182,7 +129,7 @@ public final class PromisesTest {
     }
 
     private static void produce() {
-        promise = "promise 5";
+        about("promise 5");
         ParserForge x = new ParserForge();
         int[][] bad = {
             {9, 0, 0, 0}, {13, 0, 0, 0}, {0, 0, 0, 0}, {-1, -1, -1, -1}, {LOWEST, 0, 0, 0}, {HIGHEST, 0, 0, 0},
@@ -210,7 +157,7 @@ public final class PromisesTest {
     }
 
     private static void retract() {
-        promise = "promise 6";
+        about("promise 6");
         ParserForge x = letters();
         x.produce(10, 0, -1, -1);
         x.produce(10, 1, -1, -1);
@@ -229,7 +176,7 @@ public final class PromisesTest {
     }
 
     private static void rank() {
-        promise = "promise 7";
+        about("promise 7");
         ParserForge x = letters();
         x.produce(10, 10, 0, 10);
         x.produce(10, 1, -1, -1);
@@ -252,7 +199,7 @@ public final class PromisesTest {
     }
 
     private static void action() {
-        promise = "promise 8";
+        about("promise 8");
         ParserForge x = letters();
         due("without productions", x.action(0, 0, 0), false);
         x.produce(10, 3, 2, 1);
@@ -271,7 +218,7 @@ public final class PromisesTest {
     }
 
     private static void buildKeepsWhatItWasMadeOf() {
-        promise = "promise 9";
+        about("promise 9");
         ParserForge x = letters();
         x.produce(10, 10, 0, 10);
         x.produce(10, 1, -1, -1);
@@ -301,7 +248,7 @@ public final class PromisesTest {
     }
 
     private static void buildAnswersRules() {
-        promise = "promise 9, RULES";
+        about("promise 9, RULES");
         int[][] bad = {{5}, {6}, {7}, {8}, {9}, {0, 5}, {0, 6}, {0, 1}, {0, 5, 1}, {0, 1, 5, 5}, {7, 0}, {0, 7, 6},
             {0, 1, 2, 5}, {0, 0, 0, 0, 0, 0, 0, 0}, {4, 4, 4, 4, 4, 5, 5, 5}};
         ParserForge x = letters();
@@ -332,41 +279,8 @@ public final class PromisesTest {
         due("still unbuilt after MANY", y.tokens(), -1);
     }
 
-    private static void grammar(ParserForge x, int[][] productions) {
-        while (x.retract()) {
-            continue;
-        }
-        for (int[] p : productions) {
-            x.produce(p[0], p[1], p[2], p[3]);
-        }
-    }
-
-    private static void statesOf40(ParserForge x) {
-        grammar(x, new int[][] {{12, 1, 0, 1}, {11, 11, 10, 11}, {12, 11, 12, 12}, {10, 10, 0, 12}, {12, 10, 12, 11},
-            {10, 1, 1, 12}, {10, 0, 1, 1}, {11, 0, 1, 10}});
-    }
-
-    private static void statesOf41(ParserForge x) {
-        grammar(x, new int[][] {{11, 12, 11, 12}, {12, 0, 1, 10}, {11, 0, 12, 11}, {12, 1, 1, 11}, {10, 12, 1, 0},
-            {12, 0, 0, 1}, {11, 1, 11, 11}, {10, 1, 0, 11}});
-    }
-
-    private static void setsOf60(ParserForge x) {
-        terms(x, 0, 2, 3, 6, 8, 4, 5, 2, 5);
-        terms(x, 1, 4, 7, 3, 5, 4, 5, 4, 5);
-        terms(x, 2, 4, 7, 0, 5, 4, 5, 2, 5);
-        terms(x, 3, 4, 7, 2, 5, 4, 5, 7);
-    }
-
-    private static void setsOf61(ParserForge x) {
-        terms(x, 0, 4, 7, 3, 5, 4, 5, 4, 5);
-        terms(x, 1, 3, 0, 6, 8, 4, 5, 4, 5);
-        terms(x, 2, 4, 7, 1, 5, 3, 5, 3, 5);
-        terms(x, 3, 4, 7, 2, 5, 3, 5, 4, 5);
-    }
-
     private static void buildAnswersMany() {
-        promise = "promise 9, MANY";
+        about("promise 9, MANY");
         ParserForge x = letters();
         statesOf41(x);
         due("41 states", x.build(), ParserForge.MANY);
@@ -386,19 +300,13 @@ public final class PromisesTest {
         due("60 sets", x.build(), ParserForge.OK);
         due("built(0)", x.built(0), 60);
         due("built(1)", x.built(1), 50);
-        grammar(x, new int[][] {});
+        grammar(x);
         due("smaller again", x.build(), ParserForge.OK);
         due("built(2) of START alone", x.built(2), 2);
         letters(x);
         statesOf41(x);
         due("41 states after all", x.build(), ParserForge.MANY);
         counts(x, 60, 50, 2, 0);
-    }
-
-    private static void letters(ParserForge x) {
-        for (int r = 0; r < 4; r++) {
-            terms(x, r, r);
-        }
     }
 
     private static void scanner(int sets, int classes, int[]... rules) {
@@ -412,7 +320,7 @@ public final class PromisesTest {
     }
 
     private static void builtSetsAndClasses() {
-        promise = "promise 10, sets and classes";
+        about("promise 10, sets and classes");
         scanner(0, 0);
         scanner(1, 2, new int[] {0});
         scanner(1, 2, new int[] {4});
@@ -440,7 +348,7 @@ public final class PromisesTest {
         due("built(highest)", x.built(HIGHEST), -1);
     }
 
-    private static void parser(int states, int conflicts, int[][] productions) {
+    private static void parser(int states, int conflicts, int[]... productions) {
         ParserForge x = letters();
         grammar(x, productions);
         due("build()", x.build(), ParserForge.OK);
@@ -449,29 +357,29 @@ public final class PromisesTest {
     }
 
     private static void builtStates() {
-        promise = "promise 10, states";
-        parser(2, 0, new int[][] {});
-        parser(2, 0, new int[][] {{10, -1, -1, -1}});
-        parser(3, 0, new int[][] {{10, 0, -1, -1}});
-        parser(5, 0, new int[][] {{10, 0, 0, 0}});
+        about("promise 10, states");
+        parser(2, 0);
+        parser(2, 0, makes(10));
+        parser(3, 0, makes(10, 0));
+        parser(5, 0, makes(10, 0, 0, 0));
         // Productions of a nonterminal that 10 does not need add no state.
-        parser(3, 0, new int[][] {{10, 0, -1, -1}, {11, 1, 1, 1}});
+        parser(3, 0, makes(10, 0), makes(11, 1, 1, 1));
         // A nonterminal without productions still leads somewhere.
-        parser(3, 0, new int[][] {{10, 11, -1, -1}});
-        parser(7, 0, new int[][] {{10, 11, 11, -1}, {11, 0, 11, -1}, {11, 1, -1, -1}});
+        parser(3, 0, makes(10, 11));
+        parser(7, 0, makes(10, 11, 11), makes(11, 0, 11), makes(11, 1));
     }
 
     private static void builtConflicts() {
-        promise = "promise 10, conflicts";
+        about("promise 10, conflicts");
         // Two productions of the same form: each state that ends them has one conflict for END.
-        parser(3, 1, new int[][] {{10, 0, -1, -1}, {10, 0, -1, -1}});
-        parser(3, 3, new int[][] {{10, 0, -1, -1}, {10, 0, -1, -1}, {10, 0, -1, -1}, {10, 0, -1, -1}});
+        parser(3, 1, makes(10, 0), makes(10, 0));
+        parser(3, 3, makes(10, 0), makes(10, 0), makes(10, 0), makes(10, 0));
         // START's end and 10's own end, with END.
-        parser(2, 1, new int[][] {{10, 10, -1, -1}});
-        parser(5, 1, new int[][] {{10, 10, 0, 10}, {10, 1, -1, -1}});
+        parser(2, 1, makes(10, 10));
+        parser(5, 1, makes(10, 10, 0, 10), makes(10, 1));
         // A state before 0 with 3 productions to reduce there: 2 conflicts among these, 1 with the shift.
         ParserForge x = letters();
-        grammar(x, new int[][] {{10, 11, 0, -1}, {10, 1, 0, 0}, {11, 1, -1, -1}, {11, 1, -1, -1}, {11, 1, -1, -1}});
+        grammar(x, makes(10, 11, 0), makes(10, 1, 0, 0), makes(11, 1), makes(11, 1), makes(11, 1));
         x.build();
         due("several", x.built(3), 3);
         x.rank(0, 1, 0);
@@ -485,7 +393,7 @@ public final class PromisesTest {
         due("the production alone has a rank", x.built(3), 3);
         // A production without a terminal has no rank.
         ParserForge y = letters();
-        grammar(y, new int[][] {{10, 11, 0, -1}, {10, 0, -1, -1}, {11, -1, -1, -1}});
+        grammar(y, makes(10, 11, 0), makes(10, 0), makes(11));
         for (int t = 0; t < 4; t++) {
             y.rank(t, 3, 0);
         }
@@ -495,7 +403,7 @@ public final class PromisesTest {
     }
 
     private static void put() {
-        promise = "promise 11";
+        about("promise 11");
         ParserForge x = new ParserForge();
         due("put(-1)", x.put(-1), false);
         due("put(4)", x.put(4), false);
@@ -510,7 +418,7 @@ public final class PromisesTest {
     }
 
     private static void wipe() {
-        promise = "promise 12";
+        about("promise 12");
         ParserForge x = letters();
         x.build();
         text(x, 1, 2, 3);
@@ -523,7 +431,7 @@ public final class PromisesTest {
     }
 
     private static void tokens() {
-        promise = "promise 13";
+        about("promise 13");
         ParserForge x = new ParserForge();
         terms(x, 0, 0, 1, 5);
         terms(x, 1, 4);
@@ -579,7 +487,7 @@ public final class PromisesTest {
     }
 
     private static void token() {
-        promise = "promise 14";
+        about("promise 14");
         ParserForge x = new ParserForge();
         terms(x, 2, 3, 8);
         terms(x, 1, 0, 8);
@@ -610,7 +518,7 @@ public final class PromisesTest {
     }
 
     private static void parseAnswers() {
-        promise = "promise 15";
+        about("promise 15");
         ParserForge x = letters();
         x.clear(3);
         x.skip(2, true);
@@ -630,29 +538,29 @@ public final class PromisesTest {
         parsed(x, ParserForge.OK, 1, 2, 0, 1);
         // Before 1 the least production makes 12 of nothing, again and again.
         ParserForge y = letters();
-        grammar(y, new int[][] {{10, 12, 10, -1}, {10, 11, 1, -1}, {12, -1, -1, -1}, {11, -1, -1, -1}});
+        grammar(y, makes(10, 12, 10), makes(10, 11, 1), makes(12), makes(11));
         y.build();
         parsed(y, ParserForge.ENDLESS, 0, 0, 1);
         parsed(y, ParserForge.ERROR, 0, 2);
     }
 
     private static void parseLooksAhead() {
-        promise = "promise 15, lookaheads";
+        about("promise 15, lookaheads");
         // The terminals that follow 12 anywhere have 0; its lookaheads where it is reduced behind 10's beginning don't.
         ParserForge x = letters();
-        grammar(x, new int[][] {{10, 11, 0, 12}, {10, 12, -1, -1}, {11, 1, 12, -1}, {11, 2, -1, -1}, {12, 11, -1, -1}});
+        grammar(x, makes(10, 11, 0, 12), makes(10, 12), makes(11, 1, 12), makes(11, 2), makes(12, 11));
         x.build();
         due("no conflict", x.built(3), 0);
         parsed(x, ParserForge.OK, 6, 8, 1, 2, 0, 1, 2);
         // States that differ in lookaheads alone are one: the two ways to 2 meet, so that 2 conflicts are there.
         ParserForge y = letters();
-        grammar(y, new int[][] {{10, 0, 11, 0}, {10, 1, 11, 1}, {10, 0, 12, 1}, {10, 1, 12, 0}, {11, 2, -1, -1},
-            {12, 2, -1, -1}});
+        grammar(y, makes(10, 0, 11, 0), makes(10, 1, 11, 1), makes(10, 0, 12, 1), makes(10, 1, 12, 0), makes(11, 2),
+            makes(12, 2));
         y.build();
         due("merged", y.built(3), 2);
         // Behind 11 comes 12, which may be empty: both what begins it and what follows it look ahead.
         ParserForge z = letters();
-        grammar(z, new int[][] {{10, 11, 12, 0}, {11, 3, -1, -1}, {11, -1, -1, -1}, {12, 2, -1, -1}, {12, -1, -1, -1}});
+        grammar(z, makes(10, 11, 12, 0), makes(11, 3), makes(11), makes(12, 2), makes(12));
         z.build();
         due("no conflict", z.built(3), 0);
         parsed(z, ParserForge.OK, 0, 3, 0);
@@ -660,26 +568,26 @@ public final class PromisesTest {
         parsed(z, ParserForge.ERROR, 0, 64 + 5, 3, 1);
         // 12 stands for nothing at all and no terminal begins it, so that 11 never sees its end.
         ParserForge w = letters();
-        grammar(w, new int[][] {{10, 11, 12, -1}, {11, 0, -1, -1}, {12, 12, -1, -1}});
+        grammar(w, makes(10, 11, 12), makes(11, 0), makes(12, 12));
         w.build();
         parsed(w, ParserForge.ERROR, 0, 64, 0);
         // A conflict of productions goes to the least one.
         ParserForge v = letters();
-        grammar(v, new int[][] {{10, 12, -1, -1}, {10, 11, -1, -1}, {11, 0, -1, -1}, {12, 0, -1, -1}});
+        grammar(v, makes(10, 12), makes(10, 11), makes(11, 0), makes(12, 0));
         v.action(2, 0, 20);
         v.action(3, 0, 30);
         v.build();
         parsed(v, ParserForge.OK, 20, 2, 0);
         // And to START's before all.
         ParserForge u = letters();
-        grammar(u, new int[][] {{10, 10, -1, -1}, {10, 0, -1, -1}});
+        grammar(u, makes(10, 10), makes(10, 0));
         u.build();
         parsed(u, ParserForge.OK, 0, 1, 0);
     }
 
     private static ParserForge minusAndPower(int rank0, int grouping0, int rank1, int grouping1) {
         ParserForge x = letters();
-        grammar(x, new int[][] {{10, 10, 0, 10}, {10, 10, 1, 10}, {10, 2, -1, -1}});
+        grammar(x, makes(10, 10, 0, 10), makes(10, 10, 1, 10), makes(10, 2));
         x.action(0, 2, 0);
         x.action(1, 1, 0);
         x.rank(0, rank0, grouping0);
@@ -689,7 +597,7 @@ public final class PromisesTest {
     }
 
     private static void parseByRank() {
-        promise = "promise 15, ranks";
+        about("promise 15, ranks");
         // Letter 0 counts as a value too: a - b is a - 0 - b; a * b is a * 1 * b.
         ParserForge x = minusAndPower(1, 0, 2, 0);
         due("no conflict", x.built(3), 0);
@@ -710,7 +618,7 @@ public final class PromisesTest {
         parsed(x, ParserForge.OK, 2, 5, 2, 0, 2, 0, 2);
         // The last terminal of the production counts, not the first one, nor one behind it.
         ParserForge y = letters();
-        grammar(y, new int[][] {{10, 0, 10, -1}, {10, 10, 1, 10}, {10, 2, -1, -1}, {10, 0, 1, 10}});
+        grammar(y, makes(10, 0, 10), makes(10, 10, 1, 10), makes(10, 2), makes(10, 0, 1, 10));
         y.rank(0, 3, 0);
         y.rank(1, 2, 1);
         y.action(0, 2, 5);
@@ -722,11 +630,11 @@ public final class PromisesTest {
     }
 
     private static void parseStepLimit() {
-        promise = "promise 15, 150 steps";
+        about("promise 15, 150 steps");
         // Each 0 costs 9 steps and each 1 costs 7, and there are 2 more.
         ParserForge x = letters();
-        grammar(x, new int[][] {{10, 12, -1, -1}, {10, 11, 10, 11}, {11, 12, 0, 12}, {11, 12, 12, 12}, {11, 1, -1, -1},
-            {12, -1, -1, -1}});
+        grammar(x, makes(10, 12), makes(10, 11, 10, 11), makes(11, 12, 0, 12), makes(11, 12, 12, 12), makes(11, 1),
+            makes(12));
         x.build();
         parsed(x, ParserForge.OK, 0, 10, 0);
         parsed(x, ParserForge.OK, 1, 8, 1);
@@ -752,7 +660,7 @@ public final class PromisesTest {
     }
 
     private static void value() {
-        promise = "promise 16";
+        about("promise 16");
         due("0, three", valued(0, 10, 1, 2, 3), 16);
         due("0, none", valued(0, -4), -4);
         due("1, three", valued(1, 10, 3, 2, 3), 28);
@@ -807,7 +715,7 @@ public final class PromisesTest {
     }
 
     private static void place() {
-        promise = "promise 17";
+        about("promise 17");
         ParserForge x = letters();
         x.clear(3);
         x.skip(2, true);
@@ -828,7 +736,7 @@ public final class PromisesTest {
         due("of the latest parse", x.place(), 3);
         // The terminals are those of the state behind the reduces that the lookahead still allowed.
         ParserForge y = letters();
-        grammar(y, new int[][] {{10, 0, 11, 0}, {10, 1, 11, 1}, {11, 2, -1, -1}});
+        grammar(y, makes(10, 0, 11, 0), makes(10, 1, 11, 1), makes(11, 2));
         y.build();
         parsed(y, ParserForge.ERROR, 0, 64 * 2 + 1, 0, 2, 1);
         parsed(y, ParserForge.ERROR, 0, 64 * 2 + 2, 1, 2, 0);
@@ -836,7 +744,7 @@ public final class PromisesTest {
         parsed(y, ParserForge.ERROR, 0, 64 * 2 + 3, 1, 2);
         // Endless behind a token.
         ParserForge z = letters();
-        grammar(z, new int[][] {{10, 0, 11, -1}, {11, 12, 11, -1}, {12, -1, -1, -1}, {11, -1, -1, -1}, {11, 1, -1, -1}});
+        grammar(z, makes(10, 0, 11), makes(11, 12, 11), makes(12), makes(11), makes(11, 1));
         z.build();
         parsed(z, ParserForge.ENDLESS, 0, 1, 0);
         parsed(z, ParserForge.OK, 1, 2, 0, 1);
