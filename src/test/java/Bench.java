@@ -8,6 +8,11 @@ import java.util.function.ToIntFunction;
 abstract class Bench {
     static final int LOWEST = Integer.MIN_VALUE, HIGHEST = Integer.MAX_VALUE;
 
+    /** Texts that tell groupings and actions of an object as CallEdgesTest uses it, and some that it can't parse. */
+    private static final int[][] SEEN_TEXTS = {{}, {2}, {2, 0, 2, 1, 2}, {3, 0, 1, 0, 3, 0, 1, 0, 3, 0, 2},
+        {3, 0, 1, 1, 3, 0, 2, 1, 3, 0, 1}, {3, 0, 2, 0, 3, 0, 1, 1, 3, 0, 1}, {3, 0, 1, 1, 3, 0, 1, 0, 3, 0, 2},
+        {0, 0, 1, 1, 0, 2, 3, 3, 1, 2, 3, 0, 2, 2, 1, 3, 1, 0, 3, 2}};
+
     private static int wrong = 0;
     private static String promise = "";
 
@@ -92,6 +97,18 @@ abstract class Bench {
         return x;
     }
 
+    /** 10 makes 10 0 10 (the first minus the others), 10 1 10 (the product) and 2. */
+    static ParserForge withRanks(int rank0, int grouping0, int rank1, int grouping1) {
+        ParserForge x = letters();
+        grammar(x, makes(10, 10, 0, 10), makes(10, 10, 1, 10), makes(10, 2));
+        x.action(0, 2, 0);
+        x.action(1, 1, 0);
+        x.rank(0, rank0, grouping0);
+        x.rank(1, rank1, grouping1);
+        x.build();
+        return x;
+    }
+
     static void statesOf40(ParserForge x) {
         grammar(x, makes(12, 1, 0, 1), makes(11, 11, 10, 11), makes(12, 11, 12, 12), makes(10, 10, 0, 12),
             makes(12, 10, 12, 11), makes(10, 1, 1, 12), makes(10, 0, 1, 1), makes(11, 0, 1, 10));
@@ -166,10 +183,10 @@ abstract class Bench {
         seen.add(x.build());
         addWhatIsBuilt(x, seen);
         seen.add(x.wipe());
-        for (int letter = 0; letter < 20; letter++) {
-            x.put(letter * letter / 3 % 4);
+        for (int[] letters : SEEN_TEXTS) {
+            text(x, letters);
+            addWhatIsBuilt(x, seen);
         }
-        addWhatIsBuilt(x, seen);
         seen.add(x.produce(10, -1, -1, -1));
         while (x.retract()) {
             seen.add(1);

@@ -1,3 +1,4 @@
+import java.util.List;
 import java.util.function.Consumer;
 
 /**
@@ -61,6 +62,7 @@ public final class CallEdgesTest extends Bench {
         placeAfterEndless();
         placeAfterOk();
         placeWithoutParse();
+        valueAndPlaceOfTheLatestParse();
         end();
     }
 
@@ -80,7 +82,6 @@ public final class CallEdgesTest extends Bench {
         x.build();
         text(x, 3, 0, 1, 0, 0, 2, 3, 0, 2, 1, 3, 0, 1);
         x.parse();
-        x.skip(1, true);
         x.skip(2, false);
         x.produce(10, 2, -1, -1);
         x.rank(2, 1, 1);
@@ -465,7 +466,8 @@ public final class CallEdgesTest extends Bench {
         about("9: builds scanner and parser of what is now");
         ParserForge x = new ParserForge();
         used(x);
-        // Since the build before, 1 became skipped and 2 a token that 10 makes.
+        // Since the build before, 2 became a token that 10 makes, and 1 is skipped now.
+        x.skip(1, true);
         due("the tokens as of then", cut(x, 2, 2, 1), "1:2-3");
         parsed(x, ParserForge.OK, 7, 1, 3, 0, 1);
         due("build()", x.build(), ParserForge.OK);
@@ -903,10 +905,6 @@ public final class CallEdgesTest extends Bench {
             parsed(x, ParserForge.OK, 9, 1, 0);
             parsed(x, ParserForge.STUCK, 0, 0, 3);
         }
-        parsed(x, ParserForge.OK, 9, 1, 0);
-        x.wipe();
-        x.build();
-        due("of the latest parse still", x.value(), 9);
         ParserForge y = parserOf(makes(10, 0));
         y.action(0, 0, LOWEST);
         y.build();
@@ -991,11 +989,21 @@ public final class CallEdgesTest extends Bench {
         due("after build", x.place(), -1);
         x.tokens();
         due("after tokens", x.place(), -1);
-        about("17: what the latest parse ended with");
-        parsed(x, ParserForge.ERROR, 0, 0);
-        x.put(1);
-        x.build();
-        due("after put and build", x.place(), 0);
-        parsed(x, ParserForge.STUCK, 0, 0, 1);
+    }
+
+    private static void valueAndPlaceOfTheLatestParse() {
+        about("16, 17: what the latest parse ended with");
+        List<Consumer<ParserForge>> others = List.of(x -> x.tokens(), x -> x.token(0, 3), x -> x.built(0),
+            x -> x.value(), x -> x.place(), x -> x.put(1), x -> x.wipe(), x -> x.tokens(), x -> x.rule(2, 7),
+            x -> x.skip(0, true), x -> x.rank(0, 1, 1), x -> x.action(0, 1, 1), x -> x.build(), x -> x.clear(0),
+            x -> x.retract(), x -> x.produce(10, -1, -1, -1), x -> x.rule(1, 1), x -> x.build(), x -> x.clear(1),
+            x -> x.build());
+        ParserForge x = allAnswers();
+        parsed(x, ParserForge.OK, 9, 1, 0);
+        for (int i = 0; i < others.size(); i++) {
+            others.get(i).accept(x);
+            due("value() after call " + i, x.value(), 9);
+            due("place() after call " + i, x.place(), 1);
+        }
     }
 }

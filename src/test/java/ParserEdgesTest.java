@@ -310,18 +310,6 @@ public final class ParserEdgesTest extends Bench {
         due("built(3) with two terminals", z.built(3), 4);
     }
 
-    /** 10 makes 10 0 10, 10 1 10 and 2; the value tells what was done with the 1 of 2 0 2 1 2. */
-    private static ParserForge withRanks(int rank0, int grouping0, int rank1, int grouping1) {
-        ParserForge x = letters();
-        grammar(x, makes(10, 10, 0, 10), makes(10, 10, 1, 10), makes(10, 2));
-        x.action(0, 2, 0);
-        x.action(1, 1, 0);
-        x.rank(0, rank0, grouping0);
-        x.rank(1, rank1, grouping1);
-        x.build();
-        return x;
-    }
-
     private static void ranksAndGroupings() {
         for (int i = 0; i < 6 * 6 * 9; i++) {
             int ofProduction = i % 6;
