@@ -8,8 +8,11 @@ import java.nio.file.Files;
 import java.nio.file.Path;
 import java.util.ArrayList;
 import java.util.Arrays;
+import java.util.Collections;
 import java.util.List;
+import java.util.Map;
 import java.util.Set;
+import java.util.TreeMap;
 import java.util.TreeSet;
 import java.util.regex.Matcher;
 import java.util.regex.Pattern;
@@ -108,12 +111,70 @@ public final class FaceTest {
             boolean inField = made.group(1).matches("    private final \\w+\\[\\] \\w+ = ");
             mustHold(inField && made.group(2).matches(" \\w+\\[[A-Z_]+\\];"), "an array of a field: " + made.group());
         }
-        Matcher method = Pattern.compile("(?s)\n    (?:public|private) [^;={]*\\{\n.*?\n    \\}\n").matcher(code);
-        int methods = 0;
+        Map<String, String> bodies = bodies(code);
+        bodies.forEach((name, body) -> mustHold(body.lines().count() <= 60, name + " is a short method"));
+        calls(bodies);
+        loops(code);
+    }
+
+    private static Map<String, String> bodies(String code) {
+        Map<String, String> bodies = new TreeMap<>();
+        String head = "\n    (?:public|private) [^;={]*?(\\w+)\\([^;={]*\\) \\{\n";
+        Matcher method = Pattern.compile("(?s)" + head + "(.*?)\n    \\}\n").matcher(code);
         while (method.find()) {
-            methods++;
-            mustHold(method.group().lines().count() <= 61, "a short method: " + method.group().lines().toList().get(1));
+            bodies.put(method.group(1), method.group(2));
         }
-        mustHold(methods > 16, "the methods are found");
+        Set<String> names = new TreeSet<>(Set.of("ParserForge"));
+        for (Method m : ParserForge.class.getDeclaredMethods()) {
+            names.add(m.getName());
+        }
+        mustHold(bodies.keySet().equals(names), "all methods are found, not " + bodies.keySet());
+        return bodies;
+    }
+
+    private static void calls(Map<String, String> bodies) {
+        Map<String, Set<String>> called = new TreeMap<>();
+        bodies.forEach((name, body) -> called.put(name, callsIn(name, body, bodies.keySet())));
+        // Each round takes away what calls nothing that is left: the ways through the rest are longer than the rounds.
+        Set<String> left = new TreeSet<>(bodies.keySet());
+        for (int round = 0; round < 6; round++) {
+            Set<String> before = Set.copyOf(left);
+            left.removeIf(name -> Collections.disjoint(called.get(name), before));
+        }
+        mustHold(left.isEmpty(), "calls go at most six deep and never in a ring: " + left);
+    }
+
+    private static Set<String> callsIn(String name, String body, Set<String> methods) {
+        Pattern call = Pattern.compile("\\b(" + String.join("|", methods) + ")\\(");
+        Set<String> found = new TreeSet<>();
+        for (Matcher m = call.matcher(body); m.find();) {
+            found.add(m.group(1));
+            String arguments = body.substring(m.end(), endOfArguments(body, m.end()));
+            mustHold(!call.matcher(arguments).find(), name + ": no call inside the arguments of " + m.group(1));
+        }
+        return found;
+    }
+
+    private static int endOfArguments(String body, int from) {
+        int open = 1;
+        int at = from;
+        while (open > 0) {
+            open += body.charAt(at) == '(' ? 1 : body.charAt(at) == ')' ? -1 : 0;
+            at++;
+        }
+        return at - 1;
+    }
+
+    private static void loops(String code) {
+        String bounded = "\\1 <=? (?:[A-Z_]+|\\w+\\.length)(?: && [^;]*)?";
+        Pattern counted = Pattern.compile("for \\(int (\\w+) = [^;]*; " + bounded + "; \\1\\+\\+\\) \\{");
+        Matcher loop = Pattern.compile("(?m)\\bfor\\b.*$").matcher(code);
+        int loops = 0;
+        while (loop.find()) {
+            loops++;
+            mustHold(counted.matcher(loop.group()).matches(), "a counter against a bound: " + loop.group());
+        }
+        mustHold(loops > 10, "the loops are found");
+        mustHold(!Pattern.compile("\\bdo\\b").matcher(code).find(), "no loop but for");
     }
 }
